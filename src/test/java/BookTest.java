@@ -51,6 +51,10 @@ public final class BookTest {
         Check.due(25, "note(0, 3000, 3000, 0)", town.note(0, 3000, 3000, 0), 4);
         Check.due(25, "note(0, 0, 2999, 0)", town.note(0, 0, 2999, 0), NO);
         Check.due(25, "told(9)", town.told(9), 4);
+        ModelTown other = new ModelTown();
+        other.figure();
+        other.note(0, 0, 1, 0);
+        Check.due(25, "note(0, 0, 0, 0), told ahead of the only one", other.note(0, 0, 0, 0), NO);
     }
 
     private static void notesFull() {

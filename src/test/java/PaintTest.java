@@ -189,11 +189,14 @@ public final class PaintTest {
         town.hands(0);
         town.wall(0, 0, 1);
         town.wall(0, 1, 1);
-        int[][] due = {{60, 75}, {20, 50}, {0, 25}, {0, 0}, {0, 0}};
+        town.fade(2, 33);
+        town.wall(0, 2, 1);
+        int[][] due = {{60, 75, 67}, {20, 50, 34}, {0, 25, 1}, {0, 0, 0}, {0, 0, 0}};
         for (int w = 0; w < due.length; w++) {
             town.week();
             Check.due(14, "wallOf(0, 3) after week " + w, town.wallOf(0, 3), due[w][0]);
             Check.due(14, "wallOf(1, 3) after week " + w, town.wallOf(1, 3), due[w][1]);
+            Check.due(14, "wallOf(2, 3) after week " + w, town.wallOf(2, 3), due[w][2]);
         }
     }
 
@@ -225,6 +228,12 @@ public final class PaintTest {
         Check.due(15, "foretell(1, 0) in WEEK 200", town.foretell(1, 0), STATE);
         Check.due(16, "enough(1, 0) in WEEK 200", town.enough(1, 0), STATE);
         Check.due(15, "foretell(53, 0)", town.foretell(53, 0), OUTSIDE);
+        ModelTown bare = new ModelTown();
+        for (int w = 0; w < 200; w++) {
+            bare.week();
+        }
+        Check.due(15, "foretell(1, 0), STATE ahead of NONE", bare.foretell(1, 0), STATE);
+        Check.due(16, "enough(1, 0), STATE ahead of NONE", bare.enough(1, 0), STATE);
     }
 
     private static void foretell() {

@@ -14,6 +14,7 @@ public final class ScaleTest {
         looks();
         grownLooks();
         dueIsCut();
+        slackOfGreatDue();
         faultsBySort();
         firstFault();
         spoils();
@@ -232,6 +233,18 @@ public final class ScaleTest {
         }
     }
 
+    private static void slackOfGreatDue() {
+        ModelTown town = new ModelTown();
+        town.rule(0, 10, 50);
+        town.thing(HOUSE, 60000, 3000, 0);
+        town.thing(HOUSE, 60000, 2999, 0);
+        town.thing(TREE, 60000, 8950, 50);
+        Check.due(6, "look(0, 0, 2)", town.look(0, 0, 2), 0);
+        Check.due(6, "look(1, 0, 2)", town.look(1, 0, 2), 2);
+        Check.due(6, "look(2, 13, 2), just 9000", town.look(2, 13, 2), 0);
+        Check.due(6, "look(2, 14, 2), 9050", town.look(2, 14, 2), 1);
+    }
+
     private static void faultsBySort() {
         ModelTown town = new ModelTown();
         int[] sizes = {674, 675, 825, 826, 1, 9000};
@@ -262,6 +275,11 @@ public final class ScaleTest {
         Check.due(7, "fault(3001)", town.fault(3001), OUTSIDE);
         town.rule(14, 30, 50);
         Check.due(7, "fault(14)", town.fault(14), 0);
+        ModelTown fair = new ModelTown();
+        for (int t = 0; t < 20; t++) {
+            fair.thing(t % 3, 9000, 750, 0);
+        }
+        Check.due(7, "fault(0) of 20 fair things", fair.fault(0), NONE);
     }
 
     private static void spoils() {
