@@ -29,6 +29,12 @@ public final class BookEdgesTest {
         play.due(12, "told", 8);
     }
 
+    @Sentence("They change nothing.")
+    private static void promise24RefusedCallsChangeNothing() {
+        Play full = Play.full();
+        full.refused(FULL, "figure");
+    }
+
     // ---- 25: note
 
     @Sentence("(there is no such THING, WALL, TRAIN, RING, FIGURE)")
@@ -155,6 +161,19 @@ public final class BookEdgesTest {
         play.refused(FULL, "note", 0, 6, 5, 1);
     }
 
+    @Sentence("They change nothing.")
+    private static void promise25RefusedCallsChangeNothing() {
+        Play play = Play.livedIn();
+        play.refused(UNKNOWN, "note", 2, 5, 12, 1);
+        play.refused(OUTSIDE, "note", 0, 3001, 12, 1);
+        play.refused(OUTSIDE, "note", 0, 5, 3001, 1);
+        play.refused(OUTSIDE, "note", 0, 5, 12, 100);
+        play.refused(NO, "note", 0, 5, 11, 1);
+        play.refused(NO, "note", 0, 14, 13, 1);
+        Play full = Play.full();
+        full.refused(FULL, "note", 0, 5, 40, 1);
+    }
+
     // ---- 26: where
 
     @Sentence("(UNKNOWN: -101; OUTSIDE: -102.)")
@@ -255,6 +274,14 @@ public final class BookEdgesTest {
         play.refused(WHERE_UNKNOWN, "where", -1, 0, -1);
     }
 
+    @Sentence("They change nothing.")
+    private static void promise26RefusedCallsChangeNothing() {
+        Play play = Play.livedIn();
+        play.refused(WHERE_UNKNOWN, "where", 2, 5, 12);
+        play.refused(WHERE_OUTSIDE, "where", 0, 3001, 12);
+        play.refused(WHERE_OUTSIDE, "where", 0, 5, 3001);
+    }
+
     // ---- 27: at
 
     @Sentence("as bits (place -1: gone ones)")
@@ -313,6 +340,14 @@ public final class BookEdgesTest {
         play.due(1, "at", 10, 5, 8);
         play.due(3, "at", 10, 5, 9);
         play.due(0, "at", 10, 4, 9);
+    }
+
+    @Sentence("They change nothing.")
+    private static void promise27RefusedCallsChangeNothing() {
+        Play play = Play.livedIn();
+        play.refused(OUTSIDE, "at", 100, 5, 12);
+        play.refused(OUTSIDE, "at", 3, 3001, 12);
+        play.refused(OUTSIDE, "at", 3, 5, 3001);
     }
 
     // ---- 28: turns
@@ -400,6 +435,13 @@ public final class BookEdgesTest {
         play.refused(UNKNOWN, "turns", -1, -1);
     }
 
+    @Sentence("They change nothing.")
+    private static void promise28RefusedCallsChangeNothing() {
+        Play play = Play.livedIn();
+        play.refused(UNKNOWN, "turns", 2, 5);
+        play.refused(OUTSIDE, "turns", 0, 3001);
+    }
+
     // ---- 29: told
 
     @Sentence("8 FIGURES, 9 NOTES. OUTSIDE.")
@@ -449,5 +491,12 @@ public final class BookEdgesTest {
         for (int what = 0; what <= 9; what++) {
             play.due(what == 4 ? 20 : 0, "told", what);
         }
+    }
+
+    @Sentence("They change nothing.")
+    private static void promise29RefusedCallsChangeNothing() {
+        Play play = Play.livedIn();
+        play.refused(OUTSIDE, "told", 10);
+        play.refused(OUTSIDE, "told", -1);
     }
 }

@@ -53,6 +53,13 @@ public final class PaintEdgesTest {
         play.due(5, "fade", 3, 5);
     }
 
+    @Sentence("They change nothing.")
+    private static void promise9RefusedCallsChangeNothing() {
+        Play play = Play.livedIn();
+        play.refused(OUTSIDE, "fade", 4, 40);
+        play.refused(OUTSIDE, "fade", 1, 41);
+    }
+
     // ---- 10: wall
 
     @Sentence("a house (any number 0 to 99)")
@@ -122,6 +129,16 @@ public final class PaintEdgesTest {
         play.refused(OUTSIDE, "wall", 0, 0, 0);
     }
 
+    @Sentence("They change nothing.")
+    private static void promise10RefusedCallsChangeNothing() {
+        Play play = Play.livedIn();
+        play.refused(OUTSIDE, "wall", 100, 0, 1);
+        play.refused(OUTSIDE, "wall", 0, 4, 1);
+        play.refused(OUTSIDE, "wall", 0, 0, 61);
+        Play full = Play.full();
+        full.refused(FULL, "wall", 0, 0, 1);
+    }
+
     // ---- 11: wallOf
 
     @Sentence("(there is no such THING, WALL,")
@@ -184,6 +201,13 @@ public final class PaintEdgesTest {
         play.refused(UNKNOWN, "wallOf", -1, -1);
     }
 
+    @Sentence("They change nothing.")
+    private static void promise11RefusedCallsChangeNothing() {
+        Play play = Play.livedIn();
+        play.refused(UNKNOWN, "wallOf", 3, 0);
+        play.refused(OUTSIDE, "wallOf", 0, 5);
+    }
+
     // ---- 12: hands
 
     @Sentence("(hours in all, 0 to 500; 20 at first)")
@@ -204,6 +228,13 @@ public final class PaintEdgesTest {
         play.refused(OUTSIDE, "hands", -1);
         play.due(7, "hands", 8);
         play.due(8, "told", 4);
+    }
+
+    @Sentence("They change nothing.")
+    private static void promise12RefusedCallsChangeNothing() {
+        Play play = Play.livedIn();
+        play.refused(OUTSIDE, "hands", 501);
+        play.refused(OUTSIDE, "hands", -1);
     }
 
     // ---- 13: frost
@@ -264,6 +295,16 @@ public final class PaintEdgesTest {
         play.times(200, "week");
         play.refused(OUTSIDE, "frost", -1, true);
         play.refused(OUTSIDE, "frost", 200, true);
+    }
+
+    @Sentence("They change nothing.")
+    private static void promise13RefusedCallsChangeNothing() {
+        Play play = Play.livedIn();
+        play.refused(OUTSIDE, "frost", 200, true);
+        play.refused(OUTSIDE, "frost", -1, true);
+        play.refused(NO, "frost", 2, true);
+        Play old = Play.old();
+        old.refused(NO, "frost", 199, true);
     }
 
     // ---- 14: week
@@ -481,6 +522,12 @@ public final class PaintEdgesTest {
         play.due(60, "wallOf", 0, 3);
     }
 
+    @Sentence("They change nothing.")
+    private static void promise14RefusedCallsChangeNothing() {
+        Play old = Play.old();
+        old.refused(STATE, "week");
+    }
+
     // ---- 15: foretell
 
     @Sentence("FORETOLD for n WEEKS (1 to 52, up to WEEK 199)")
@@ -653,6 +700,15 @@ public final class PaintEdgesTest {
         play.refused(OUTSIDE, "foretell", 52, -1);
     }
 
+    @Sentence("They change nothing.")
+    private static void promise15RefusedCallsChangeNothing() {
+        Play play = Play.livedIn();
+        play.refused(OUTSIDE, "foretell", 53, 0);
+        play.refused(OUTSIDE, "foretell", 1, 3);
+        Play old = Play.old();
+        old.refused(STATE, "foretell", 1, 0);
+    }
+
     // ---- 16: enough
 
     @Sentence("ENOUGH for n WEEKS and a LOOK (0 to 100)")
@@ -804,5 +860,14 @@ public final class PaintEdgesTest {
         play.refused(NONE, "enough", 51, 0);
         play.call("wall", 0, 0, 1);
         play.refused(OUTSIDE, "enough", 52, -1);
+    }
+
+    @Sentence("They change nothing.")
+    private static void promise16RefusedCallsChangeNothing() {
+        Play play = Play.livedIn();
+        play.refused(OUTSIDE, "enough", 53, 0);
+        play.refused(OUTSIDE, "enough", 1, 101);
+        Play old = Play.old();
+        old.refused(STATE, "enough", 1, 0);
     }
 }

@@ -23,6 +23,64 @@ final class Play {
     private final List<Object[]> numbers = new ArrayList<>();
     private int calls = 0;
 
+    /** A town where something of everything is there, and nothing is full. */
+    static Play livedIn() {
+        Play play = new Play();
+        play.call("rule", 10, 9, 5);
+        play.call("rule", 40, 20, 0);
+        play.call("thing", 0, 9000, 700, 0);
+        play.call("thing", 1, 9000, 700, 20);
+        play.call("thing", 2, 9000, 700, 0);
+        play.call("clip", 1, 30, 100);
+        play.call("fade", 1, 12);
+        play.call("wall", 1, 0, 10);
+        play.call("wall", 1, 1, 12);
+        play.call("wall", 2, 2, 60);
+        play.call("frost", 5, true);
+        play.call("hands", 30);
+        play.times(3, "week");
+        play.times(2, "ring");
+        for (int block = 0; block < 4; block++) {
+            play.call("block", 0, block);
+        }
+        play.call("block", 1, 3);
+        play.call("block", 1, 7);
+        play.call("train", 0, 0, 2);
+        play.call("train", 0, 1, 3);
+        play.call("train", 1, 1, 5);
+        play.call("stick", 1, true);
+        play.call("run", 4);
+        play.times(2, "figure");
+        play.call("note", 0, 5, 9, 3);
+        play.call("note", 0, 9, 12, -1);
+        play.call("note", 1, 2, 12, 50);
+        return play;
+    }
+
+    /** A town where all that may be full is full; no train is on its ring 2 of twelve blocks, 8 to 19. */
+    static Play full() {
+        Play play = livedIn();
+        play.times(4, "rule", 40, 5, 5);
+        play.times(17, "thing", 2, 9000, 700, 0);
+        play.times(59, "clip", 1, 40, 70);
+        play.times(21, "wall", 1, 2, 3);
+        play.call("ring");
+        for (int block = 8; block < 20; block++) {
+            play.call("block", 2, block);
+        }
+        play.call("train", 0, 3, 1);
+        play.times(10, "figure");
+        play.times(57, "note", 0, 9, 40, 7);
+        return play;
+    }
+
+    /** A town where all weeks are over. */
+    static Play old() {
+        Play play = livedIn();
+        play.times(197, "week");
+        return play;
+    }
+
     /** A call that belongs to the town's past. */
     int call(String name, Object... with) {
         names.add(name);

@@ -1,11 +1,12 @@
 /**
  * Tells all that later calls show of a town, so that two towns can be held against each other. A probe changes
- * the town that it tells of (what can't be asked shows by how later calls go on), and keeps under 310 calls.
+ * the town that it tells of (what can't be asked shows by how later calls go on), and keeps under 280 calls.
  */
 final class Probes {
     static final int COUNT = 5;
 
     private static final int[] DAYS = {0, 7, 30, 31, 2999, 3000};
+    private static final int[] TOLD_ON = {0, 5, 9, 12, 30};
 
     private Probes() {
     }
@@ -129,8 +130,10 @@ final class Probes {
     private static void book(StringBuilder out, Play town) {
         for (int figure = 0; figure < 12; figure++) {
             for (int day : DAYS) {
-                put(out, town, "where", figure, day, 30);
                 put(out, town, "where", figure, day, 3000);
+            }
+            for (int asOf : TOLD_ON) {
+                put(out, town, "where", figure, 3000, asOf);
             }
             put(out, town, "turns", figure, 30);
             put(out, town, "turns", figure, 3000);

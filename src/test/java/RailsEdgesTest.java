@@ -44,6 +44,12 @@ public final class RailsEdgesTest {
         play.due(1, "block", 1, 10);
     }
 
+    @Sentence("They change nothing.")
+    private static void promise17RefusedCallsChangeNothing() {
+        Play full = Play.full();
+        full.refused(FULL, "ring");
+    }
+
     // ---- 18: block
 
     @Sentence("(there is no such THING, WALL, TRAIN, RING, FIGURE)")
@@ -153,6 +159,21 @@ public final class RailsEdgesTest {
         shorter.refused(OUTSIDE, "block", 0, -1);
         shorter.call("train", 0, 0, 1);
         shorter.refused(STATE, "block", 0, 10);
+    }
+
+    @Sentence("They change nothing.")
+    private static void promise18RefusedCallsChangeNothing() {
+        Play play = Play.livedIn();
+        play.refused(UNKNOWN, "block", 2, 9);
+        play.refused(OUTSIDE, "block", 0, 30);
+        play.refused(STATE, "block", 0, 9);
+        play.refused(STATE, "block", 1, 9);
+        Play full = Play.full();
+        full.refused(FULL, "block", 2, 20);
+        Play bare = Play.livedIn();
+        bare.call("ring");
+        bare.call("block", 2, 9);
+        bare.refused(NO, "block", 2, 9);
     }
 
     // ---- 19: train
@@ -274,6 +295,19 @@ public final class RailsEdgesTest {
         play.refused(FULL, "train", 0, 0, 1);
     }
 
+    @Sentence("They change nothing.")
+    private static void promise19RefusedCallsChangeNothing() {
+        Play play = Play.livedIn();
+        play.refused(UNKNOWN, "train", 2, 0, 1);
+        play.refused(OUTSIDE, "train", 0, 4, 1);
+        play.refused(OUTSIDE, "train", 0, 3, 10);
+        play.refused(NO, "train", 0, 1, 1);
+        play.call("ring");
+        play.refused(STATE, "train", 2, 0, 1);
+        Play full = Play.full();
+        full.refused(FULL, "train", 2, 0, 1);
+    }
+
     // ---- 20: stick
 
     @Sentence("(there is no such THING, WALL, TRAIN, RING, FIGURE)")
@@ -301,6 +335,13 @@ public final class RailsEdgesTest {
         play.due(0, "stick", 1, false);
         play.due(1, "stick", 0, false);
         play.due(0, "stick", 0, false);
+    }
+
+    @Sentence("They change nothing.")
+    private static void promise20RefusedCallsChangeNothing() {
+        Play play = Play.livedIn();
+        play.refused(UNKNOWN, "stick", 3, true);
+        play.refused(UNKNOWN, "stick", -1, true);
     }
 
     // ---- 21: run
@@ -460,6 +501,13 @@ public final class RailsEdgesTest {
         play.due(2, "run", 1);
     }
 
+    @Sentence("They change nothing.")
+    private static void promise21RefusedCallsChangeNothing() {
+        Play play = Play.livedIn();
+        play.refused(OUTSIDE, "run", 501);
+        play.refused(OUTSIDE, "run", 0);
+    }
+
     // ---- 22: trainOf
 
     @Sentence("(there is no such THING, WALL, TRAIN, RING, FIGURE)")
@@ -520,6 +568,13 @@ public final class RailsEdgesTest {
         play.call("train", 0, 0, 1);
         play.refused(UNKNOWN, "trainOf", 1, 8);
         play.refused(UNKNOWN, "trainOf", -1, -1);
+    }
+
+    @Sentence("They change nothing.")
+    private static void promise22RefusedCallsChangeNothing() {
+        Play play = Play.livedIn();
+        play.refused(UNKNOWN, "trainOf", 3, 0);
+        play.refused(OUTSIDE, "trainOf", 0, 8);
     }
 
     // ---- 23: stands

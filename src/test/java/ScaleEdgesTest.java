@@ -143,6 +143,16 @@ public final class ScaleEdgesTest {
         play.outside(0, 50, "rule", 5, 12, IT);
     }
 
+    @Sentence("They change nothing.")
+    private static void promise2RefusedCallsChangeNothing() {
+        Play play = Play.livedIn();
+        play.refused(OUTSIDE, "rule", 3001, 2, 0);
+        play.refused(OUTSIDE, "rule", 0, 31, 0);
+        play.refused(OUTSIDE, "rule", 0, 2, 51);
+        Play full = Play.full();
+        full.refused(FULL, "rule", 0, 2, 0);
+    }
+
     // ---- 3: force
 
     @Sentence("DAYS go from 0 to 3000.")
@@ -231,6 +241,13 @@ public final class ScaleEdgesTest {
         }
     }
 
+    @Sentence("They change nothing.")
+    private static void promise3RefusedCallsChangeNothing() {
+        Play play = Play.livedIn();
+        play.refused(OUTSIDE, "force", 3001, 0);
+        play.refused(OUTSIDE, "force", 0, 2);
+    }
+
     // ---- 4: thing
 
     @Sentence("0 house, 1 tree, 2 water")
@@ -305,6 +322,17 @@ public final class ScaleEdgesTest {
         play.refused(OUTSIDE, "thing", HOUSE, 60001, 1, 0);
         play.refused(OUTSIDE, "thing", HOUSE, 100, 0, 0);
         play.refused(OUTSIDE, "thing", HOUSE, 100, 1, 51);
+    }
+
+    @Sentence("They change nothing.")
+    private static void promise4RefusedCallsChangeNothing() {
+        Play play = Play.livedIn();
+        play.refused(OUTSIDE, "thing", 3, 100, 1, 0);
+        play.refused(OUTSIDE, "thing", 1, 99, 1, 0);
+        play.refused(OUTSIDE, "thing", 1, 100, 0, 0);
+        play.refused(OUTSIDE, "thing", 1, 100, 1, 51);
+        Play full = Play.full();
+        full.refused(FULL, "thing", 0, 100, 1, 0);
     }
 
     // ---- 5: clip
@@ -465,6 +493,20 @@ public final class ScaleEdgesTest {
         play.refused(OUTSIDE, "clip", 0, 30, 0);
         play.refused(STATE, "clip", 1, 30, 5);
         play.refused(FULL, "clip", 0, 29, 5);
+    }
+
+    @Sentence("They change nothing.")
+    private static void promise5RefusedCallsChangeNothing() {
+        Play play = Play.livedIn();
+        play.refused(UNKNOWN, "clip", 3, 40, 9);
+        play.refused(OUTSIDE, "clip", 1, 3001, 9);
+        play.refused(OUTSIDE, "clip", 1, 40, 0);
+        play.refused(STATE, "clip", 0, 40, 9);
+        play.refused(STATE, "clip", 2, 40, 9);
+        play.refused(NO, "clip", 1, 29, 9);
+        Play full = Play.full();
+        full.refused(FULL, "clip", 1, 40, 9);
+        full.refused(UNKNOWN, "clip", 20, 40, 9);
     }
 
     // ---- 6: look
@@ -669,6 +711,14 @@ public final class ScaleEdgesTest {
         play.refused(OUTSIDE, "look", 0, -1, 3);
     }
 
+    @Sentence("They change nothing.")
+    private static void promise6RefusedCallsChangeNothing() {
+        Play play = Play.livedIn();
+        play.refused(UNKNOWN, "look", 3, 0, 0);
+        play.refused(OUTSIDE, "look", 0, 3001, 0);
+        play.refused(OUTSIDE, "look", 0, 0, 3);
+    }
+
     // ---- 7: fault
 
     @Sentence("DAYS go from 0 to 3000.")
@@ -711,6 +761,13 @@ public final class ScaleEdgesTest {
         later.call("thing", WATER, 9000, 674, 0);
         later.due(1, "fault", 6);
         later.due(0, "fault", 7);
+    }
+
+    @Sentence("They change nothing.")
+    private static void promise7RefusedCallsChangeNothing() {
+        Play play = Play.livedIn();
+        play.refused(OUTSIDE, "fault", -1);
+        play.refused(OUTSIDE, "fault", 3001);
     }
 
     // ---- 8: spoils
@@ -780,5 +837,12 @@ public final class ScaleEdgesTest {
         play.call("thing", HOUSE, 9000, 750, 0);
         play.refused(UNKNOWN, "spoils", 1, 3001);
         play.refused(UNKNOWN, "spoils", -1, -1);
+    }
+
+    @Sentence("They change nothing.")
+    private static void promise8RefusedCallsChangeNothing() {
+        Play play = Play.livedIn();
+        play.refused(UNKNOWN, "spoils", 3, 0);
+        play.refused(OUTSIDE, "spoils", 0, 3001);
     }
 }
